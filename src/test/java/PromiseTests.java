@@ -309,6 +309,18 @@ public final class PromiseTests {
         due("play over", x.state(1), 2);
         write(x, "");
         due("play nothing", x.play(), 0);
+        // Men could still go, but a father has fallen.
+        x = board("0a161e163b204d50");
+        write(x, "a1b2");
+        due("play takes father", x.play(), 1);
+        due("no moves without a father", x.moves(-1), 0);
+        due("no move without a father", x.moves(0), NONE);
+        due("reach without a father", x.reach(1), cells("b4", "c3", "e3"));
+        due("blocked without a father", x.youth(1, 1), 0);
+        write(x, "d5c3");
+        due("judge without a father", x.judge(1), 1);
+        due("stands without a father", x.stands(), 1);
+        due("drawn without a father", x.drawn(0, 1), 0);
         x = board("0a183e50");
         x.law(0, 0, 9);
         write(x, "a1b2");
@@ -407,6 +419,19 @@ public final class PromiseTests {
         for (int what : bad) {
             due("solve " + what, x.solve(what), OUTSIDE);
         }
+        // Found by search: boards with just as many stands as can be gone through, and with one more.
+        String[] most = {"0e473c312a44", "0d213b342a10!", "0a543b275a30!", "0d163c474e245c36!", "0b273a541a30"};
+        for (String text : most) {
+            x = board(text);
+            due("stands at most " + text, x.stands(), 20000);
+            due("solve at most " + text, x.solve(0) >= 0 ? 1 : 0, 1);
+        }
+        String[] tooMany = {"0c523c142a37", "0d193b562a245d36!", "0e323a342c17", "0c213b252a50", "0c543a134a37!"};
+        for (String text : tooMany) {
+            x = board(text);
+            due("stands too many " + text, x.stands(), FULL);
+            due("solve too many " + text, x.solve(0), FULL);
+        }
         x = new AgingMen();
         due("stands of new", x.stands(), 7248);
         due("solve of new", x.solve(1), 16);
@@ -461,6 +486,8 @@ public final class PromiseTests {
         for (int man : bad) {
             due("even " + man, x.even(man), UNKNOWN);
         }
+        x.law(0, 0, 0);
+        due("even where none goes", x.even(0), 1023);
         x = board(YOUNG);
         due("even where all is full", x.even(0), 0);
     }
@@ -547,6 +574,7 @@ public final class PromiseTests {
         due("book not good, full", x.book(), NO);
         due("book refused leaves signs", x.told(0), 4);
         due("books", x.told(1), 8);
+        likeOnes();
         x = new AgingMen();
         x.law(9, 9, 9);
         write(x, "a1c2e5d3c2a1d3e5a1c2e5d3c2a1d3e5a1c2e5d3c2a1d3e5");
@@ -556,6 +584,51 @@ public final class PromiseTests {
         write(x, "a1c2e5d3c2a1d3e5a1c2e5d3c2a1d3e5a1c2e5d3c2a1d3e5");
         due("next twelve", x.next(0), 1);
         due("next behind twelve", x.next(3), NONE);
+    }
+
+    private static void likeOnes() {
+        AgingMen x = new AgingMen();
+        String[] games = {"a1b3", "a1c2", "a1b3", "a1b3e5d3", "a1b3e5c4"};
+        int[] most = {move("a1b3"), move("a1c2"), move("a1b3"), move("a1b3"), move("a1b3")};
+        int[] times = {1, 1, 2, 3, 4};
+        for (int i = 0; i < games.length; i++) {
+            write(x, games[i]);
+            due("book like ones " + i, x.book(), i);
+            due("next of like ones " + i, x.next(3), most[i]);
+            due("next of like ones, times " + i, x.next(4), times[i]);
+        }
+        write(x, "a1c2");
+        x.book();
+        write(x, "a1b3");
+        due("next behind a move", x.next(0), 4);
+        due("next behind a move, of like ones", x.next(3), move("e5d3"));
+        due("next behind a move, times", x.next(4), 1);
+        due("images of a book", x.image(1), 1);
+        for (int i = 0; i < 2; i++) {
+            write(x, "a1c2e5d3");
+            x.book();
+        }
+        x.restore(1);
+        due("restored book", x.told(1), 6);
+        due("restored fifth game", x.booked(4, 11), move("e5c4"));
+        x = new AgingMen();
+        write(x, "a1b3e5c4");
+        x.book();
+        x.image(0);
+        for (int i = 1; i < 8; i++) {
+            write(x, "a1c2");
+            due("book " + i, x.book(), i);
+        }
+        x.image(1);
+        x.restore(0);
+        for (int i = 1; i < 8; i++) {
+            write(x, "a1b3");
+            due("book other " + i, x.book(), i);
+        }
+        x.restore(1);
+        for (int i = 1; i < 8; i++) {
+            due("restored game " + i, x.booked(i, 10), move("a1c2"));
+        }
     }
 
     private static void draws() {
@@ -569,6 +642,10 @@ public final class PromiseTests {
         x = board("0a173b20");
         due("drawn 0 by the third move", x.drawn(0, 0), 1);
         due("drawn 0 by the third move, moves", x.drawn(0, 1), 1);
+        // The one move that may be is made, and the father can not go on.
+        x = board("0a171a292b293e59");
+        due("drawn by one move", x.drawn(3, 0), 3);
+        due("drawn by one move, moves", x.drawn(3, 1), 1);
         x = board("0a193e50");
         due("drawn when over", x.drawn(9999, 0), 2);
         due("drawn when over, moves", x.drawn(9999, 1), 0);
