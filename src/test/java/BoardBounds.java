@@ -170,6 +170,9 @@ public final class BoardBounds extends Rows {
         canStand(0, "!", "");
         canStand(0, "5e54", "01234!");
         canStand(0, "0a101a202a303a404a505b", "12345");
+        // Column a is full: its sign may still stand there, and no row behind it (so NOTES.md reads the document).
+        canStand(0, "0a101a202a303a404a505", "abcde");
+        canStand(0, "0a101a202a303a404a505a", "");
         canStand(0, SIX, "!");
         canStand(0, SIX + "!", "");
         Rows twice = holds("no MAN twice");
