@@ -7,7 +7,9 @@ import java.nio.file.Files;
 import java.nio.file.Path;
 import java.util.ArrayList;
 import java.util.List;
+import java.util.Map;
 import java.util.Set;
+import java.util.TreeMap;
 import java.util.TreeSet;
 import java.util.regex.Matcher;
 import java.util.regex.Pattern;
@@ -107,6 +109,53 @@ public final class FaceTests {
         }
     }
 
+    // Names that several classes use count as one method: a way found here may be longer than a real one, never shorter.
+    private static Map<String, Set<String>> callsByName(String text) {
+        String code = text.replaceAll("(?s)/\\*.*?\\*/", "").replaceAll("//[^\n]*", "");
+        Map<String, StringBuilder> bodies = new TreeMap<>();
+        Pattern head = Pattern.compile(" {4}(?: {4})?(?:[a-z]+ )*(\\w+)\\([^;]*\\) \\{");
+        StringBuilder body = new StringBuilder();
+        for (String line : code.split("\n")) {
+            Matcher found = head.matcher(line);
+            if (found.matches()) {
+                body = bodies.computeIfAbsent(found.group(1), name -> new StringBuilder());
+            } else {
+                body.append(line).append('\n');
+            }
+        }
+        Map<String, Set<String>> calls = new TreeMap<>();
+        for (String name : bodies.keySet()) {
+            Set<String> called = new TreeSet<>();
+            Matcher found = Pattern.compile("\\b(\\w+)\\(").matcher(bodies.get(name));
+            while (found.find()) {
+                if (bodies.containsKey(found.group(1))) {
+                    called.add(found.group(1));
+                }
+            }
+            calls.put(name, called);
+        }
+        return calls;
+    }
+
+    private static int depthOf(String name, Map<String, Set<String>> calls, int guard) {
+        int deepest = 0;
+        for (String called : guard > 0 ? calls.get(name) : Set.<String>of()) {
+            deepest = Math.max(deepest, depthOf(called, calls, guard - 1));
+        }
+        return 1 + deepest;
+    }
+
+    private static void depths() throws Exception {
+        Map<String, Set<String>> calls = callsByName(Files.readString(SOURCE));
+        due("methods were found in the text", calls.size() > FACE.length, true);
+        for (String call : FACE) {
+            String name = call.substring(0, call.indexOf(' '));
+            due(name + " stands in the text", calls.containsKey(name), true);
+            int depth = calls.containsKey(name) ? depthOf(name, calls, 12) : 0;
+            due(name + " goes at most eight calls deep: " + depth, depth <= 8, true);
+        }
+    }
+
     private static long allocated() {
         com.sun.management.ThreadMXBean bean = (com.sun.management.ThreadMXBean) ManagementFactory.getThreadMXBean();
         return bean.getThreadAllocatedBytes(Thread.currentThread().getId());
@@ -153,6 +202,7 @@ public final class FaceTests {
     public static void main(String[] args) throws Exception {
         face();
         words();
+        depths();
         room();
         System.out.println(wrong == 0 ? "the face and the text are as due" : wrong + " things are not as due");
         if (wrong != 0) {

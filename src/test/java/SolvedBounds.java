@@ -72,6 +72,21 @@ public final class SolvedBounds extends Rows {
         holds("solve: 0, 1, 2; OUTSIDE", "solve 0 = 0", "solve 1 = 16", "solve 2 = a1c2", "solve -1|3|LEAST|GREATEST = OUTSIDE");
     }
 
+    // Found by search: here one STAND that comes by several ways is kept in the solver's first slot, and what it was
+    // found to bring decides all.
+    private static void cameByOtherWays() {
+        String[] texts = {"0b243e584a54", "0e273e562b45"};
+        for (String text : texts) {
+            Model model = modelOf(text);
+            int[] want = model.solve(model.board);
+            Rows rows = holds("SOLVED: a STAND that came by another way brings what it brought then: " + text, "board " + text);
+            rows.due("stands", model.memo.size());
+            for (int what = 0; what < 3; what++) {
+                rows.due("solve " + what, want[what]);
+            }
+        }
+    }
+
     private static void keys() {
         holds("KEYS: n 1 or 2; OUTSIDE: n",
             "keys 1|2 -1 = 0", "keys 0|3|-1|-2|LEAST|GREATEST -1|0 = OUTSIDE", "keys 0 LEAST = OUTSIDE");
@@ -153,6 +168,7 @@ public final class SolvedBounds extends Rows {
     public static void main(String[] args) {
         stands();
         solving();
+        cameByOtherWays();
         keys();
         evens();
         end("the bounds of part 3 hold");
